@@ -59,7 +59,7 @@ public final class TopicDesk {
             throw new IllegalArgumentException("no pattern, or no such queue");
         }
         int i = leastFreeBinding();
-        if (i == NONE) {
+        if (i < 0 || i >= bindings.length) {
             throw new IllegalStateException("no binding is free");
         }
         bindings[i].tie(taken, queue);
@@ -473,10 +473,11 @@ public final class TopicDesk {
         /** False, changing nothing, if the topic is new and the shelf is full. */
         boolean put(Text topic, int value) {
             int at = placeFor(topic);
-            if (!isAt(at, topic)) {
-                if (size >= topics.length) {
-                    return false;
-                }
+            boolean isNew = !isAt(at, topic);
+            if (at >= topics.length || isNew && size >= topics.length) {
+                return false;
+            }
+            if (isNew) {
                 size++;
                 move(size - 1, at);
                 topics[at].setText(topic);
@@ -498,7 +499,7 @@ public final class TopicDesk {
 
         int countTakenBy(Text pattern) {
             int count = 0;
-            for (int at = 0; at < size; at++) {
+            for (int at = 0; at < size && at < topics.length; at++) {
                 if (pattern.takes(topics[at].text())) {
                     count++;
                 }
@@ -509,7 +510,7 @@ public final class TopicDesk {
         /** The k-th topic that the pattern takes, or null. */
         KeptTopic takenBy(Text pattern, int k) {
             int passed = 0;
-            for (int at = 0; at < size; at++) {
+            for (int at = 0; at < size && at < topics.length; at++) {
                 if (pattern.takes(topics[at].text())) {
                     if (passed == k) {
                         return topics[at];
@@ -523,18 +524,21 @@ public final class TopicDesk {
         /** The place of the first topic that is not ahead of this one. */
         private int placeFor(Text topic) {
             int at = 0;
-            while (at < size && topics[at].text().compareSigns(topic) < 0) {
+            while (at < size && at < topics.length && topics[at].text().compareSigns(topic) < 0) {
                 at++;
             }
             return at;
         }
 
         private boolean isAt(int at, Text topic) {
-            return at < size && topics[at].text().compareSigns(topic) == 0;
+            return at < size && at < topics.length && topics[at].text().compareSigns(topic) == 0;
         }
 
         /** Takes the topic at one place out and puts it in at another, the others closing up. */
         private void move(int from, int to) {
+            if (!isPlace(from) || !isPlace(to)) {
+                return;
+            }
             KeptTopic moved = topics[from];
             for (int at = from; at < to; at++) {
                 topics[at] = topics[at + 1];
@@ -543,6 +547,10 @@ public final class TopicDesk {
                 topics[at] = topics[at - 1];
             }
             topics[to] = moved;
+        }
+
+        private boolean isPlace(int at) {
+            return at >= 0 && at < topics.length;
         }
     }
 
